@@ -555,7 +555,7 @@ public final class ValuesGo {
         private void split() {
             tokensSize = 0;
             int place = 0;
-            while (place < size) {
+            for (int i = 0; i < TAPE && place < size; i++) {
                 if (tape[place] == 32 || tape[place] == 10) {
                     place++;
                 } else {
