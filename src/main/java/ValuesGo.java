@@ -1060,7 +1060,7 @@ public final class ValuesGo {
 
         private int orderedNext() {
             int next = NONE;
-            for (int rule = 0; rule < MOST_RULES + MOST_LEARNED; rule++) {
+            for (int rule = 0; rule < MOST_RULES + MOST_LEARNED && queue >> rule != 0; rule++) {
                 boolean waits = (queue >> rule & 1) == 1;
                 if (waits && (next == NONE || rules.priorities[rule] < rules.priorities[next])) {
                     next = rule;

@@ -25,14 +25,6 @@ public final class GoingTest {
         check.close();
     }
 
-    private static ValuesGo with(String... texts) {
-        ValuesGo x = new ValuesGo();
-        for (int i = 0; i < texts.length; i++) {
-            check.due("rule() of '" + texts[i] + "'", Check.rule(x, texts[i]), i);
-        }
-        return x;
-    }
-
     private static void trailIs(ValuesGo x, int... due) {
         check.due("values in the trail", x.count(1), due.length);
         for (int i = 0; i < due.length; i++) {
@@ -41,7 +33,7 @@ public final class GoingTest {
     }
 
     private static void tell() {
-        ValuesGo x = with("a<b", "c<d");
+        ValuesGo x = check.with("a<b", "c<d");
         x.run();
         int runs = x.count(5);
         check.due("tell(0, 1023)", x.tell(0, 1023), 0);
@@ -76,7 +68,7 @@ public final class GoingTest {
     }
 
     private static void tellThatFails() {
-        ValuesGo x = with("a<b", "c<d");
+        ValuesGo x = check.with("a<b", "c<d");
         check.due("tell(2, 0)", x.tell(2, 0), 10);
         check.due("domain(2)", x.domain(2), 0);
         check.due("failed", x.count(8), 1);
@@ -95,7 +87,7 @@ public final class GoingTest {
     }
 
     private static void step() {
-        ValuesGo x = with("a<b", "b<c");
+        ValuesGo x = check.with("a<b", "b<c");
         check.due("both are to run", x.count(4), 2);
         check.due("step()", x.step(), 0);
         trailIs(x, 9, 10);
@@ -115,7 +107,7 @@ public final class GoingTest {
     }
 
     private static void stepByPriority() {
-        ValuesGo x = with("distinct a b c", "d:a<b", "a+b<c", "a<b", "a<8", "1<2");
+        ValuesGo x = check.with("distinct a b c", "d:a<b", "a+b<c", "a<b", "a<8", "1<2");
         int[] due = {5, 4, 3, 2, 3, 1, 0, -1};
         for (int i = 0; i < due.length; i++) {
             check.due("step() " + i, x.step(), due[i]);
@@ -123,7 +115,7 @@ public final class GoingTest {
         // a: 8 9; b: 0; b: 9, c: 0 1; d: 2 to 9
         trailIs(x, 8, 9, 10, 19, 20, 21, 32, 33, 34, 35, 36, 37, 38, 39);
         // A distinct of two comes with a plain one of four and so behind one of three and a reified one of two.
-        ValuesGo y = with("distinct a b", "c+d+e<30", "a:b<1", "distinct a b");
+        ValuesGo y = check.with("distinct a b", "c+d+e<30", "a:b<1", "distinct a b");
         int[] next = {1, 2, 0, 3};
         for (int i = 0; i < next.length; i++) {
             check.due("step() " + i, y.step(), next[i]);
@@ -132,7 +124,7 @@ public final class GoingTest {
     }
 
     private static void stepOfLikeOnes() {
-        ValuesGo x = with("a<b", "c<d", "b<c");
+        ValuesGo x = check.with("a<b", "c<d", "b<c");
         check.due("step()", x.step(), 0);
         check.due("step()", x.step(), 1);
         check.due("b<c takes of both", x.step(), 2);
@@ -141,7 +133,7 @@ public final class GoingTest {
     }
 
     private static void stepThatFails() {
-        ValuesGo x = with("a<b", "a+b=30", "c<d");
+        ValuesGo x = check.with("a<b", "a+b=30", "c<d");
         check.due("step()", x.step(), 0);
         int went = x.count(1);
         check.due("step()", x.step(), 1);
@@ -152,7 +144,7 @@ public final class GoingTest {
         check.due("c<d is to run no more", x.count(4), 0);
         check.due("step()", x.step(), ValuesGo.NONE);
 
-        ValuesGo y = with("2<1");
+        ValuesGo y = check.with("2<1");
         check.due("a rule without variables runs", y.step(), 0);
         check.due("and nothing fails by it", y.count(8), 0);
     }
@@ -160,7 +152,7 @@ public final class GoingTest {
     private static void run() {
         ValuesGo x = new ValuesGo();
         check.due("run() of none", x.run(), 0);
-        x = with("a<b", "b<c", "c<d");
+        x = check.with("a<b", "b<c", "c<d");
         // 0: a9 b0. 1: b9 c0 c1, wakes 0 2. 0: a8. 2: c9 d0 d1 d2, wakes 1. 1: b8, wakes 0. 0: a7.
         check.due("run()", x.run(), 6);
         trailIs(x, 9, 10, 19, 20, 21, 8, 29, 30, 31, 32, 18, 7);
@@ -174,16 +166,16 @@ public final class GoingTest {
         check.due("settled", x.count(6), 4);
         check.due("runs ever", x.count(5), 9);
 
-        ValuesGo y = with("a:b<c", "b=1", "c=2");
+        ValuesGo y = check.with("a:b<c", "b=1", "c=2");
         y.run();
         check.due("the test holds", y.domain(0), 2);
-        ValuesGo z = with("a:b<c", "a=0", "b=1");
+        ValuesGo z = check.with("a:b<c", "a=0", "b=1");
         z.run();
         check.due("the test doesn't hold", z.domain(2), 3);
     }
 
     private static void level() {
-        ValuesGo x = with("a<b");
+        ValuesGo x = check.with("a<b");
         check.due("level() with a rule to run", x.level(), ValuesGo.STATE);
         x.run();
         for (int i = 1; i <= 8; i++) {
@@ -200,7 +192,7 @@ public final class GoingTest {
     }
 
     private static void undo() {
-        ValuesGo x = with("a<b");
+        ValuesGo x = check.with("a<b");
         x.tell(5, 1023);
         x.run();
         check.due("undo() without a level", x.undo(), ValuesGo.STATE);
@@ -228,7 +220,7 @@ public final class GoingTest {
     }
 
     private static void undoKeepsRules() {
-        ValuesGo x = with("a<9");
+        ValuesGo x = check.with("a<9");
         x.run();
         x.level();
         check.due("rule()", Check.rule(x, "a<b"), 1);
@@ -250,7 +242,7 @@ public final class GoingTest {
     }
 
     private static void undoOfFailure() {
-        ValuesGo x = with("a<b");
+        ValuesGo x = check.with("a<b");
         x.run();
         x.level();
         x.tell(1, 3);
@@ -274,7 +266,7 @@ public final class GoingTest {
     }
 
     private static void trail() {
-        ValuesGo x = with("h<g");
+        ValuesGo x = check.with("h<g");
         x.tell(0, 1020);
         x.run();
         trailIs(x, 0, 1, 60, 79);
@@ -312,7 +304,7 @@ public final class GoingTest {
     }
 
     private static void why() {
-        ValuesGo x = with("a<b", "b<c");
+        ValuesGo x = check.with("a<b", "b<c");
         x.tell(3, 5);
         x.tell(0, 1016);
         x.tell(1, 1008);
@@ -334,7 +326,7 @@ public final class GoingTest {
         check.due("nothing ran in truth", x.count(5), 0);
         check.due("domain(2)", x.domain(2), 1023);
 
-        ValuesGo y = with("a+b=c");
+        ValuesGo y = check.with("a+b=c");
         y.tell(0, 1008);
         y.tell(4, 1);
         y.tell(1, 1008);
@@ -343,7 +335,7 @@ public final class GoingTest {
     }
 
     private static void whyOfFailure() {
-        ValuesGo x = with("a<b", "c<d");
+        ValuesGo x = check.with("a<b", "c<d");
         x.tell(0, 512);
         x.tell(2, 3);
         x.tell(1, 1);
@@ -353,7 +345,7 @@ public final class GoingTest {
         check.due("c's 5 went by decision 1, but all fails without it", x.why(2, 5), 4);
         check.due("d's 0 goes by a rule", x.why(3, 0), 0);
 
-        ValuesGo y = with("a<b");
+        ValuesGo y = check.with("a<b");
         y.tell(0, 32);
         y.tell(1, 1023);
         y.tell(1, 31);
@@ -361,13 +353,13 @@ public final class GoingTest {
         check.due("both that are needed", y.why(-1, 0), 5);
         check.due("the value matters not", y.why(-1, -9), 5);
 
-        ValuesGo z = with("a+b=30");
+        ValuesGo z = check.with("a+b=30");
         z.run();
         check.due("failed without a decision", z.why(-1, 0), 0);
     }
 
     private static void whyIsRead() {
-        ValuesGo x = with("a<b");
+        ValuesGo x = check.with("a<b");
         x.run();
         x.level();
         x.tell(0, 1008);
@@ -379,7 +371,7 @@ public final class GoingTest {
     }
 
     private static void mixed() {
-        ValuesGo x = with("a<b", "b<c", "distinct a c d", "e:a<d");
+        ValuesGo x = check.with("a<b", "b<c", "distinct a c d", "e:a<d");
         x.tell(2, 31);
         x.tell(0, 1022);
         for (int seed = -3; seed < 40; seed += 3) {

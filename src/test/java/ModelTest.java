@@ -8,6 +8,11 @@ public final class ModelTest {
         "00D<V", "1000D<V", "((((((V))))))<D", "-(-(-V))=D", "-(-(-(V)))=D", "-----V<D", "------V<D", "V=D)", "(V=D"
     };
 
+    private static final int[] WILD = {
+        Integer.MIN_VALUE, Integer.MIN_VALUE + 1, -1073741824, -1000, -3, -2, -1, 0, 1, 2, 3, 4, 7, 8, 9, 10, 12, 15, 16, 17,
+        39, 40, 41, 89, 90, 99, 100, 255, 256, 999, 1000, 1023, 1024, 1079, 1080, 65536, 1073741823, Integer.MAX_VALUE
+    };
+
     private static final Check check = new Check();
     private static long state;
     private static ValuesGo mine;
@@ -53,6 +58,8 @@ public final class ModelTest {
             int texts = due.now.failed || due.now.rules.size() == 16 ? 40 : style == 0 || style == 3 ? 8 : 25;
             if (draw(texts) == 0) {
                 text(anyText());
+            } else if (draw(20) == 0) {
+                wild(WILD[draw(WILD.length)], WILD[draw(WILD.length)], WILD[draw(WILD.length)]);
             } else {
                 one(draw(100));
             }
@@ -204,6 +211,31 @@ public final class ModelTest {
             same("feed(" + c + ")", mine.feed(c), due.feed(c));
         }
         same("rule()", mine.rule(), due.rule());
+    }
+
+    private static void wild(int a, int b, int c) {
+        int d = draw(3) == 0 ? c : 1;
+        String of = "(" + a + ", " + b + ", " + c + ", " + d + ") as far as asked for";
+        switch (draw(18)) {
+            case 0: same("feed" + of, mine.feed(a), due.feed(a)); break;
+            case 1: same("told" + of, mine.told(a, b), due.told(a, b)); break;
+            case 2: same("holds" + of, mine.holds(a, b, c, d), due.holds(a, b, c, d)); break;
+            case 3: same("taken" + of, mine.taken(a, b), due.taken(a, b)); break;
+            case 4: same("tell" + of, mine.tell(a, b), due.tell(a, b)); break;
+            case 5: same("domain" + of, mine.domain(a), due.domain(a)); break;
+            case 6: same("trail" + of, mine.trail(a, b), due.trail(a, b)); break;
+            case 7: same("decision" + of, mine.decision(a, b), due.decision(a, b)); break;
+            case 8: same("why" + of, mine.why(a, b), due.why(a, b)); break;
+            case 9: same("mixed" + of, mine.mixed(a, b), due.mixed(a, b)); break;
+            case 10: same("search" + of, mine.search(a, b, c, d), due.search(a, b, c, d)); break;
+            case 11: same("reach" + of, mine.reach(a, b), due.reach(a, b)); break;
+            case 12: same("tells" + of, mine.tells(a, b), due.tells(a, b)); break;
+            case 13: same("film" + of, mine.film(a, b, c), due.film(a, b, c)); break;
+            case 14: same("sheet" + of, mine.sheet(a, b, c), due.sheet(a, b, c)); break;
+            case 15: same("put" + of, mine.put(a, b, c), due.put(a, b, c)); break;
+            case 16: same("copy 0" + of, mine.copy(0, a, d, b, c), due.copy(0, a, d, b, c)); break;
+            default: same("load" + of, mine.load(a, d, b, c), due.load(a, d, b, c)); break;
+        }
     }
 
     private static void one(int kind) {

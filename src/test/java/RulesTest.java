@@ -11,6 +11,7 @@ public final class RulesTest {
         ruleFaultsOfPlaces();
         ruleFaultsOfVariables();
         ruleFaultsOfDepth();
+        ruleOfAFullTape();
         ruleRefusals();
         told();
         toldWaysAndWent();
@@ -97,6 +98,7 @@ public final class RulesTest {
         due("a b<c", -102);
         due("12 34<a", -103);
         due("dist inct a b", -100);
+        due(" distinct a b", 0);
     }
 
     private static void ruleFaultsOfTokens() {
@@ -114,6 +116,8 @@ public final class RulesTest {
         due("a<9999", 0);
         due("distinctt a b", -100);
         due("distinc a b", -100);
+        due("distincx a b", -100);
+        due("mistinct a b", -100);
         due("distinct ab", -109);
         due("a<distinct", -102);
         due("a:distinct b c", -102);
@@ -187,6 +191,20 @@ public final class RulesTest {
         due("(-(-(a+-b", -107);
         due("(-(-(a)+-b))<1", 0);
         due("a-(((((b)))))<1", 0);
+    }
+
+    private static void ruleOfAFullTape() {
+        // Ninety bytes, each a token of its own: -, a, 42 times +a, <, b, +b.
+        String text = "-a" + "+a".repeat(42) + "<b" + "+b";
+        check.due("bytes", text.length(), 90);
+        due(text, 0);
+        so(text, 5, 9, 0, 0);
+        so(text, 0, 1, 0, 1);
+        so("a*" + "(".repeat(5) + "1" + ")".repeat(5) + "*a".repeat(37) + "!b" + " ", 3, 0, 0, 1);
+        due("-a" + "+a".repeat(42) + "<b" + "++", -189);
+        due("-a" + "+a".repeat(43) + "<b", 0);
+        due("-a" + "+a".repeat(43) + "<", -189);
+        due("-a" + "+a".repeat(44), -190);
     }
 
     private static void ruleRefusals() {

@@ -20,14 +20,6 @@ public final class ToldTest {
         check.close();
     }
 
-    private static ValuesGo with(String... texts) {
-        ValuesGo x = new ValuesGo();
-        for (int i = 0; i < texts.length; i++) {
-            check.due("rule() of '" + texts[i] + "'", Check.rule(x, texts[i]), i);
-        }
-        return x;
-    }
-
     /** A sheet of eight ints with these values. */
     private static void show(ValuesGo x, int sheet, int... values) {
         x.sheet(sheet, 0, values.length);
@@ -48,11 +40,7 @@ public final class ToldTest {
         check.due("none such", x.tells(3, 0), 0);
 
         // Of a 0 to 3, b 1 2, c 2 3 with c>b: a is free; by the greatest all come to 3, 2, 3.
-        ValuesGo y = with("c>b");
-        int[] sets = {15, 6, 14, 1, 1, 1, 1, 1};
-        for (int v = 0; v < 8; v++) {
-            y.tell(v, sets[v]);
-        }
+        ValuesGo y = check.told(new int[] {15, 6, 14}, "c>b");
         show(y, 0, 3, 2, 3, 0, 0, 0, 0, 0);
         // In the middle: a 2 of four, b 2 of two, so c 3.
         check.due("greatest by all", y.tells(0, 0), 0b010_010_010_010);
@@ -61,19 +49,14 @@ public final class ToldTest {
         check.due("nothing went in truth", y.count(5), 0);
 
         // a 5 and b 4 are all that can be; c's and d's least are 0 and 1.
-        ValuesGo z = with("a+b=9", "a-b=1", "c<d");
+        ValuesGo z = check.with("a+b=9", "a-b=1", "c<d");
         show(z, 0, 5, 4, 0, 1, 0, 0, 0, 0);
         check.due("the least by all", z.tells(0, 0), 0b001_001_001_001);
         z.tell(4, 0);
         check.due("by none when all is failed", z.tells(0, 0), 0);
 
         // A search that is dear finds nothing: by the first with its least, and by most rules d and then a, b, e.
-        ValuesGo d = with("d:a*10+b<50", "e!f", "(e-f)*(e-f)*d=0");
-        d.tell(4, 3);
-        d.tell(5, 3);
-        d.tell(2, 1);
-        d.tell(6, 1);
-        d.tell(7, 1);
+        ValuesGo d = check.hard(50);
         check.due("dear", d.search(0, 0, 0, 0), ValuesGo.DEAR);
         show(d, 0, 5, 0, 0, 0, 0, 1, 0, 0);
         check.due("by the first it is dear; by the fewest and by most rules d's 0 is first", d.tells(0, 0) & 1, 0);
@@ -82,7 +65,7 @@ public final class ToldTest {
     }
 
     private static void tellsRules() {
-        ValuesGo x = with("a<b", "c:a<b", "distinct a d e", "1<0", "h=9", "0<1");
+        ValuesGo x = check.with("a<b", "c:a<b", "distinct a d e", "1<0", "h=9", "0<1");
         show(x, 0, 1, 2, 1, 3, 4, 0, 0, 9);
         check.due("but what can't hold", x.tells(0, 1), 0b001000);
         show(x, 0, 2, 1, 1, 2, 4, 0, 0, 8);
@@ -99,7 +82,7 @@ public final class ToldTest {
     }
 
     private static void tellsDomains() {
-        ValuesGo x = with("a<b");
+        ValuesGo x = check.with("a<b");
         x.tell(7, 512);
         show(x, 0, 9, 0, 0, 0, 0, 0, 0, 0);
         check.due("all but h's", x.tells(0, 2), 7);
@@ -138,7 +121,7 @@ public final class ToldTest {
     }
 
     private static void film() {
-        ValuesGo x = with("a+b=9", "a-b=1", "c<d");
+        ValuesGo x = check.with("a+b=9", "a-b=1", "c<d");
         x.sheet(2, 2, 3);
         check.due("film(2, 0, 0)", x.film(2, 0, 0), 8);
         int[] due = {5, 4, 0, 1, 0, 0, 0, 0};
@@ -155,7 +138,7 @@ public final class ToldTest {
     }
 
     private static void filmRefusals() {
-        ValuesGo x = with("a<a");
+        ValuesGo x = check.with("a<a");
         x.sheet(0, 2, 3);
         x.put(0, 1, 77);
         check.due("film() of none", x.film(0, 0, 0), ValuesGo.NONE);
@@ -167,18 +150,13 @@ public final class ToldTest {
         check.due("film(0, 4, 0)", x.film(0, 4, 0), ValuesGo.BAD);
         check.due("film(0, 0, -1)", x.film(0, 0, -1), ValuesGo.BAD);
         check.due("film(0, 0, 3)", x.film(0, 0, 3), ValuesGo.BAD);
-        ValuesGo y = with("d:a*10+b<50", "e!f", "(e-f)*(e-f)*d=0");
-        y.tell(4, 3);
-        y.tell(5, 3);
-        y.tell(2, 1);
-        y.tell(6, 1);
-        y.tell(7, 1);
+        ValuesGo y = check.hard(50);
         check.due("film() that is dear", y.film(0, 0, 0), ValuesGo.DEAR);
         check.due("the sheet stays missing", y.item(0, 0), -99999);
     }
 
     private static void image() {
-        ValuesGo x = with("a<b");
+        ValuesGo x = check.with("a<b");
         check.due("image() of nothing gone", x.image(), 0);
         x.tell(3, 7);
         x.run();
@@ -201,7 +179,7 @@ public final class ToldTest {
     }
 
     private static void imageKeepsTheQueue() {
-        ValuesGo x = with("a<b", "c<d", "e<f");
+        ValuesGo x = check.with("a<b", "c<d", "e<f");
         x.step();
         x.image();
         x.run();
@@ -215,7 +193,7 @@ public final class ToldTest {
     }
 
     private static void imageKeepsFailure() {
-        ValuesGo x = with("a<b");
+        ValuesGo x = check.with("a<b");
         x.run();
         x.image();
         x.tell(0, 0);
@@ -235,7 +213,7 @@ public final class ToldTest {
     }
 
     private static void imageKeepsLevels() {
-        ValuesGo x = with("a<b");
+        ValuesGo x = check.with("a<b");
         x.run();
         x.level();
         x.tell(7, 1);
@@ -261,7 +239,7 @@ public final class ToldTest {
     }
 
     private static void imageKeepsRules() {
-        ValuesGo x = with("a<b");
+        ValuesGo x = check.with("a<b");
         x.run();
         x.image();
         Check.rule(x, "distinct c d e");
@@ -301,13 +279,13 @@ public final class ToldTest {
     }
 
     private static void back() {
-        ValuesGo x = with("a<b");
+        ValuesGo x = check.with("a<b");
         check.due("back() without an image", x.back(), ValuesGo.STATE);
         check.due("nothing was changed", x.count(0) + x.count(4), 2);
     }
 
     private static void count() {
-        ValuesGo x = with("a<b", "c=5");
+        ValuesGo x = check.with("a<b", "c=5");
         Check.feed(x, "a=");
         x.run();
         x.level();
