@@ -24,6 +24,7 @@ public final class EdgeSolutionsTest {
         learnsEight();
         learnsByNoTurn();
         learnedOnesSpareATry();
+        learnedOnesPruneEachVariable();
         learnedOnesAreGone();
         learnedOnesDontCount();
         solutionsOfTheThreeHundredthTry();
@@ -225,6 +226,38 @@ public final class EdgeSolutionsTest {
         searches("without", x, 0, 0, 0, 10110100, 17, 14, 0);
         // With a 1 the try of b wakes what was learned of b and c.
         searches("with", x, 0, 0, 1, 10110100, 16, 13, 7);
+    }
+
+    /** The same with other names: by most RULES b, c, a are tried in this order; each name goes so many places on. */
+    private static ValuesGo renamed(int on) {
+        int[] sets = {15, 3, 3, 15, 3, 3, 1, 1};
+        String[] rules = {"c+a=d", "a+d!0", "e!f", "b>(e-f)*(e-f)-1", "b<9", "b<9", "b<9", "b<9", "b<9", "c<9", "c<9", "c<9",
+            "c<9", "a<9", "a<9"};
+        ValuesGo x = new ValuesGo();
+        for (String rule : rules) {
+            StringBuilder text = new StringBuilder();
+            for (char c : rule.toCharArray()) {
+                text.append(c >= 'a' && c <= 'h' ? (char) ('a' + (c - 'a' + on) % 8) : c);
+            }
+            Check.rule(x, text.toString());
+        }
+        for (int v = 0; v < 8; v++) {
+            x.tell((v + on) % 8, sets[v]);
+        }
+        return x;
+    }
+
+    private static void learnedOnesPruneEachVariable() {
+        check.says(0, "NOGOOD: of its PAIRS (a VARIABLE and a VALUE each, of unlike VARIABLES) one at least isn't so.");
+        check.due("a 1, b 1, d 1, f 1", renamed(0).search(3, 0, 1, 0), 11010100);
+        for (int on = 0; on < 8; on++) {
+            ValuesGo x = renamed(on);
+            for (int learn = 0; learn < 2; learn++) {
+                check.due(on + " on, its tries", x.search(3, 0, learn, 1), 17 - learn);
+                check.due(on + " on, its failures", x.search(3, 0, learn, 2), 14 - learn);
+                check.due(on + " on, learned", x.search(3, 0, learn, 3), 7 * learn);
+            }
+        }
     }
 
     private static void learnedOnesAreGone() {

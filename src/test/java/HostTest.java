@@ -150,10 +150,7 @@ public final class HostTest {
     /** A sheet of a sort with these numbers. */
     private static ValuesGo sheetOf(int sort, int... items) {
         ValuesGo x = new ValuesGo();
-        x.sheet(0, sort, items.length);
-        for (int i = 0; i < items.length; i++) {
-            x.put(0, i, items[i]);
-        }
+        Check.show(x, 0, sort, items);
         return x;
     }
 

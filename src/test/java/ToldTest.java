@@ -20,37 +20,29 @@ public final class ToldTest {
         check.close();
     }
 
-    /** A sheet of eight ints with these values. */
-    private static void show(ValuesGo x, int sheet, int... values) {
-        x.sheet(sheet, 0, values.length);
-        for (int i = 0; i < values.length; i++) {
-            x.put(sheet, i, values[i]);
-        }
-    }
-
     private static void tellsChoices() {
         ValuesGo x = new ValuesGo();
-        show(x, 0, 0, 0, 0, 0, 0, 0, 0, 0);
+        Check.show(x, 0, 0, 0, 0, 0, 0, 0, 0, 0, 0);
         check.due("the least of each", x.tells(0, 0), 0b001_001_001_001);
-        show(x, 1, 9, 9, 9, 9, 9, 9, 9, 9);
+        Check.show(x, 1, 0, 9, 9, 9, 9, 9, 9, 9, 9);
         check.due("the greatest of each", x.tells(1, 0), 0b010_010_010_010);
-        show(x, 2, 5, 5, 5, 5, 5, 5, 5, 5);
+        Check.show(x, 2, 0, 5, 5, 5, 5, 5, 5, 5, 5);
         check.due("the one in the middle", x.tells(2, 0), 0b100_100_100_100);
-        show(x, 3, 5, 5, 5, 5, 5, 5, 5, 6);
+        Check.show(x, 3, 0, 5, 5, 5, 5, 5, 5, 5, 6);
         check.due("none such", x.tells(3, 0), 0);
 
         // Of a 0 to 3, b 1 2, c 2 3 with c>b: a is free; by the greatest all come to 3, 2, 3.
         ValuesGo y = check.told(new int[] {15, 6, 14}, "c>b");
-        show(y, 0, 3, 2, 3, 0, 0, 0, 0, 0);
+        Check.show(y, 0, 0, 3, 2, 3, 0, 0, 0, 0, 0);
         // In the middle: a 2 of four, b 2 of two, so c 3.
         check.due("greatest by all", y.tells(0, 0), 0b010_010_010_010);
-        show(y, 0, 2, 2, 3, 0, 0, 0, 0, 0);
+        Check.show(y, 0, 0, 2, 2, 3, 0, 0, 0, 0, 0);
         check.due("in the middle by all", y.tells(0, 0), 0b100_100_100_100);
         check.due("nothing went in truth", y.count(5), 0);
 
         // a 5 and b 4 are all that can be; c's and d's least are 0 and 1.
         ValuesGo z = check.with("a+b=9", "a-b=1", "c<d");
-        show(z, 0, 5, 4, 0, 1, 0, 0, 0, 0);
+        Check.show(z, 0, 0, 5, 4, 0, 1, 0, 0, 0, 0);
         check.due("the least by all", z.tells(0, 0), 0b001_001_001_001);
         z.tell(4, 0);
         check.due("by none when all is failed", z.tells(0, 0), 0);
@@ -58,7 +50,7 @@ public final class ToldTest {
         // A search that is dear finds nothing: by the first with its least, and by most rules d and then a, b, e.
         ValuesGo d = check.hard(50);
         check.due("dear", d.search(0, 0, 0, 0), ValuesGo.DEAR);
-        show(d, 0, 5, 0, 0, 0, 0, 1, 0, 0);
+        Check.show(d, 0, 0, 5, 0, 0, 0, 0, 1, 0, 0);
         check.due("by the first it is dear; by the fewest and by most rules d's 0 is first", d.tells(0, 0) & 1, 0);
         check.due("by the fewest", d.search(1, 0, 0, 0), 50000100);
         check.due("bit 3 is of the fewest with the least", d.tells(0, 0) >> 3 & 1, 1);
@@ -66,29 +58,29 @@ public final class ToldTest {
 
     private static void tellsRules() {
         ValuesGo x = check.with("a<b", "c:a<b", "distinct a d e", "1<0", "h=9", "0<1");
-        show(x, 0, 1, 2, 1, 3, 4, 0, 0, 9);
+        Check.show(x, 0, 0, 1, 2, 1, 3, 4, 0, 0, 9);
         check.due("but what can't hold", x.tells(0, 1), 0b001000);
-        show(x, 0, 2, 1, 1, 2, 4, 0, 0, 8);
+        Check.show(x, 0, 0, 2, 1, 1, 2, 4, 0, 0, 8);
         check.due("but the last", x.tells(0, 1), 0b011111);
-        show(x, 0, 2, 1, 0, 4, 4, 0, 0, 9);
+        Check.show(x, 0, 0, 2, 1, 0, 4, 4, 0, 0, 9);
         check.due("the reified one holds", x.tells(0, 1), 0b001101);
         check.due("no rules", emptyTells(), 0);
     }
 
     private static int emptyTells() {
         ValuesGo x = new ValuesGo();
-        show(x, 0, 0, 0, 0, 0, 0, 0, 0, 0);
+        Check.show(x, 0, 0, 0, 0, 0, 0, 0, 0, 0, 0);
         return x.tells(0, 1);
     }
 
     private static void tellsDomains() {
         ValuesGo x = check.with("a<b");
         x.tell(7, 512);
-        show(x, 0, 9, 0, 0, 0, 0, 0, 0, 0);
+        Check.show(x, 0, 0, 9, 0, 0, 0, 0, 0, 0, 0);
         check.due("all but h's", x.tells(0, 2), 7);
         x.run();
         check.due("now a's and b's are none either", x.tells(0, 2), 5);
-        show(x, 0, 0, 1, 0, 0, 0, 0, 0, 9);
+        Check.show(x, 0, 0, 0, 1, 0, 0, 0, 0, 0, 9);
         check.due("all", x.tells(0, 2), 8);
         x.tell(0, 0);
         check.due("an empty domain has none", x.tells(0, 2), 7);
@@ -96,22 +88,22 @@ public final class ToldTest {
 
     private static void tellsRefusals() {
         ValuesGo x = new ValuesGo();
-        show(x, 0, 0, 0, 0, 0, 0, 0, 0, 0);
+        Check.show(x, 0, 0, 0, 0, 0, 0, 0, 0, 0, 0);
         check.due("tells(-1, 0)", x.tells(-1, 0), ValuesGo.BAD);
         check.due("tells(4, 0)", x.tells(4, 0), ValuesGo.BAD);
         check.due("tells(0, -1)", x.tells(0, -1), ValuesGo.BAD);
         check.due("tells(0, 3)", x.tells(0, 3), ValuesGo.BAD);
         check.due("tells(1, 3)", x.tells(1, 3), ValuesGo.BAD);
         check.due("tells(1, 0)", x.tells(1, 0), -11);
-        show(x, 1, 0, 0, 0, 0, 0, 0, 0);
+        Check.show(x, 1, 0, 0, 0, 0, 0, 0, 0, 0);
         check.due("seven numbers", x.tells(1, 2), ValuesGo.BAD);
-        show(x, 1, 0, 0, 0, 0, 0, 0, 0, 0, 0);
+        Check.show(x, 1, 0, 0, 0, 0, 0, 0, 0, 0, 0, 0);
         check.due("nine numbers", x.tells(1, 2), ValuesGo.BAD);
         x.sheet(1, 0, 0);
         check.due("no numbers", x.tells(1, 2), ValuesGo.BAD);
-        show(x, 1, 0, 0, 0, 0, 0, 0, 0, 10);
+        Check.show(x, 1, 0, 0, 0, 0, 0, 0, 0, 0, 10);
         check.due("a 10", x.tells(1, 2), ValuesGo.BAD);
-        show(x, 1, -1, 0, 0, 0, 0, 0, 0, 0);
+        Check.show(x, 1, 0, -1, 0, 0, 0, 0, 0, 0, 0);
         check.due("a -1", x.tells(1, 1), ValuesGo.BAD);
         x.sheet(1, 2, 8);
         x.put(1, 3, 256 + 7);
