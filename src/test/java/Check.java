@@ -8,6 +8,9 @@ import java.util.function.ToLongFunction;
 
 /** What the tests share: a count of wrong answers, short ways to feed texts, what DOC.md says, what an object shows. */
 final class Check {
+    /** What stands ahead of each promise in the document. */
+    static final String PROMISE = "## Promise \\d+: ";
+
     private int wrong;
     private int right;
     private String[] promises;
@@ -28,14 +31,15 @@ final class Check {
      */
     void says(int promise, String words) {
         if (promises == null) {
-            promises = document().split("## Promise \\d+: ");
+            promises = document().split(PROMISE);
         }
         sentence = "  -- " + words;
         due("where promise " + promise + " is in DOC.md", promise < promises.length ? 1 : 0, 1);
         due("whether it says so of promise " + promise, promises[promise].contains(words) ? 1 : 0, 1);
     }
 
-    private static String document() {
+    /** DOC.md with each blank and end of line as one blank; empty if it can't be read. */
+    static String document() {
         try {
             return Files.readString(Path.of("../shared/DOC.md")).replaceAll("\\s+", " ");
         } catch (IOException e) {

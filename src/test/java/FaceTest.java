@@ -28,8 +28,53 @@ public final class FaceTest {
         constants();
         members();
         sizes();
-        source(Files.readString(Path.of("src/main/java/ValuesGo.java")));
+        String whole = Files.readString(Path.of("src/main/java/ValuesGo.java"));
+        source(whole);
+        declarations(whole.replaceAll("\\s+", " "));
+        sections(whole);
         check.close();
+    }
+
+    /** What the document's face declares, and each promise's head, stands so in the source, names included. */
+    private static void declarations(String code) {
+        Matcher block = Pattern.compile("```java public final class ValuesGo \\{ (.*?) \\} ```").matcher(Check.document());
+        check.due("whether DOC.md has a face", block.find() ? 1 : 0, 1);
+        String face = block.group(1);
+        String[] parts = face.split("; ?");
+        check.due("what the face declares", parts.length, 3 + METHODS.length);
+        for (String part : parts) {
+            String declared = part + (part.contains("(") ? " {" : ";");
+            check.due("whether the source has '" + declared + "'", code.contains(declared) ? 1 : 0, 1);
+        }
+        Matcher head = Pattern.compile(Check.PROMISE + "(?:A new object|(\\w+)) `([^`]+)`:").matcher(Check.document());
+        int heads = 0;
+        while (head.find()) {
+            String name = head.group(1) == null ? "ValuesGo" : head.group(1);
+            boolean declared = face.contains("public " + head.group(2) + ";") && head.group(2).contains(name + "(");
+            check.due("whether the face has " + head.group(2), declared ? 1 : 0, 1);
+            heads++;
+        }
+        check.due("promises with a head", heads, 1 + METHODS.length);
+    }
+
+    /** Ahead of the calls that the document names together the source says what the interface says. */
+    private static void sections(String whole) {
+        Matcher named = Pattern.compile("Ahead of the calls (.*?) the interface says: (---- [a-z ]+)\\.").matcher(Check.document());
+        int calls = 0;
+        while (named.find()) {
+            String head = "    // " + named.group(2) + "\n";
+            int from = whole.indexOf(head) + head.length();
+            check.due("whether the source says " + named.group(2), from > head.length() ? 1 : 0, 1);
+            Matcher method = Pattern.compile("\n    public \\w+ (\\w+)\\(").matcher(whole);
+            method.region(from, whole.indexOf("    // ----", from));
+            StringBuilder found = new StringBuilder();
+            while (method.find()) {
+                found.append(found.length() == 0 ? "`" : ", `").append(method.group(1)).append("`");
+                calls++;
+            }
+            check.due("behind it are " + found, found.toString().equals(named.group(1)) ? 1 : 0, 1);
+        }
+        check.due("calls that stand behind such words", calls, METHODS.length);
     }
 
     private static void constants() {
