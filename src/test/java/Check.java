@@ -79,6 +79,13 @@ final class Check {
         return told(sets, "d:a*10+b<" + below, "e!f", "(e-f)*(e-f)*d=0");
     }
 
+    /** That a search answers this: the solution, tries, failures, learned ones. */
+    void searches(ValuesGo x, int choose, int pick, int learn, int... want) {
+        for (int what = 0; what < 4; what++) {
+            due("search(" + choose + ", " + pick + ", " + learn + ", " + what + ")", x.search(choose, pick, learn, what), want[what]);
+        }
+    }
+
     /** Feeds a text and makes it a rule: what rule() answered. */
     static int rule(ValuesGo x, String text) {
         feed(x, text);

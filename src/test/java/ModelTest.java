@@ -165,10 +165,12 @@ public final class ModelTest {
     private static void same(String call, long got, long want) {
         calls++;
         told.append('\n').append(call).append(" = ").append(want);
-        if (!wrong) {
-            check.due(call, got, want);
+        // What an object answers behind its 512th call is free.
+        if (wrong || calls > 512) {
+            return;
         }
-        wrong = wrong || got != want;
+        check.due(call, got, want);
+        wrong = got != want;
     }
 
     private static String anyText() {

@@ -98,11 +98,9 @@ public final class SentenceCallsTest {
         // b's try leaves c and d the same one value: each b fails, until a is 1.
         ValuesGo x = check.told(new int[] {3, 3, 3, 3}, "c!d", "a>(c-d)*(c-d)-1");
         // a 0: b 0: c 0 fails, c 1 by the turn, too; b 1 by the turn: c 0, c 1; a 1 by the turn: b 0, c 0.
-        int[] due = {10010000, 6, 4, 0};
-        for (int what = 0; what < 4; what++) {
-            check.due("search(0, 0, 0, " + what + ")", x.search(0, 0, 0, what), due[what]);
-        }
-        check.due("learned: a 0 with c 0, two times", x.search(0, 0, 1, 3), 2);
+        check.searches(x, 0, 0, 0, 10010000, 6, 4, 0);
+        // Learned: a 0 with c 0, two times.
+        check.searches(x, 0, 0, 1, 10010000, 6, 4, 2);
     }
 
     private static void reachWhats() {

@@ -37,13 +37,6 @@ public final class SentenceTermsTest {
         boolean holds(int x, int y, int z);
     }
 
-    private static void searches(ValuesGo x, int choose, int pick, int learn, int... due) {
-        for (int what = 0; what < 4; what++) {
-            check.due("search(" + choose + ", " + pick + ", " + learn + ", " + what + ")",
-                x.search(choose, pick, learn, what), due[what]);
-        }
-    }
-
     // ---- what it is
 
     private static void whatRulesAreFor() {
@@ -274,8 +267,10 @@ public final class SentenceTermsTest {
     }
 
     private static void eachWay(String text, Way way) {
-        ValuesGo rule = check.with(text);
+        ValuesGo rule = null;
         for (int i = 0; i < 1000; i++) {
+            // An object is good for 512 calls.
+            rule = i % 250 == 0 ? check.with(text) : rule;
             int due = way.holds(i / 100, i / 10 % 10, i % 10) ? 1 : 0;
             check.due("'" + text + "' for " + i, rule.holds(0, i / 100, i / 10 % 10, i % 10), due);
         }
@@ -451,8 +446,8 @@ public final class SentenceTermsTest {
         // While a is 1, b has no 2 and e and f are to be like and unlike.
         ValuesGo x = check.told(new int[] {3, 7, 1, 3, 3, 3}, "a+b<3", "d:a>0", "e!f", "(e-f)*(e-f)*d=0");
         // a 1: b 1: e 1 fails, e 0 by the turn, too; b 0 by the turn: e 1 fails, e 0, too; a 0 by the turn: b 2, e 1.
-        searches(x, 0, 1, 0, 2001000, 6, 4, 0);
-        searches(x, 0, 1, 1, 2001000, 6, 4, 2);
+        check.searches(x, 0, 1, 0, 2001000, 6, 4, 0);
+        check.searches(x, 0, 1, 1, 2001000, 6, 4, 2);
     }
 
     private static void pairsAreLeftOut() {
@@ -461,10 +456,10 @@ public final class SentenceTermsTest {
         ValuesGo x = check.told(sets, "b+c=d", "c+d!0", "h:a<2", "e!f", "(e-f)*(e-f)*h=0");
         // While a is 0 or 1: b 0: c 0 fails; c 1, e 0 fails, e 1 too; c 2 by the turn, e twice; b 1 by the turn: c 0, e
         // twice; c 1 by the turn, e twice: 9 tries, 9 failures each. Then a 2: b 0: c 0 fails; c 1, e 0.
-        searches(x, 0, 0, 0, 20110100, 22, 19, 0);
+        check.searches(x, 0, 0, 0, 20110100, 22, 19, 0);
         // b 0 with c 0 is learned at first and, as a try of b wakes it, spares c 0 two times. Of the other failures
         // each teaches a's and e's, eight in all.
-        searches(x, 0, 0, 1, 20110100, 20, 17, 8);
+        check.searches(x, 0, 0, 1, 20110100, 20, 17, 8);
     }
 
     private static void pairsFromTheFirstOn() {
@@ -474,10 +469,10 @@ public final class SentenceTermsTest {
         // With a 0 as well as with b 0 d is 1, and e and f are to be like and unlike.
         ValuesGo x = check.told(new int[] {3, 3, 1, 3, 3, 3}, "a+d>0", "b+d>0", "e!f", "(e-f)*(e-f)*d=0");
         // a 0: b 0: e 0 fails, e 1 too; b 1: e twice; a 1: b 0: e twice; b 1: d 0, e 0.
-        searches(x, 0, 0, 0, 11000100, 8, 6, 0);
+        check.searches(x, 0, 0, 0, 11000100, 8, 6, 0);
         // The first failure teaches b 0 with e 0, as a 0 is left out first; the third a 0 with e 0. Behind a's turn the
         // try of b 0 fails by the first of these; b 0 alone teaches nothing.
-        searches(x, 0, 0, 1, 11000100, 7, 5, 2);
+        check.searches(x, 0, 0, 1, 11000100, 7, 5, 2);
     }
 
     private static void allSolutions() {

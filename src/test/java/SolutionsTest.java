@@ -21,28 +21,20 @@ public final class SolutionsTest {
         check.close();
     }
 
-    /** What a search answers: the solution, tries, failures, learned ones. */
-    private static void searches(ValuesGo x, int choose, int pick, int learn, int... due) {
-        for (int what = 0; what < 4; what++) {
-            check.due("search(" + choose + ", " + pick + ", " + learn + ", " + what + ")",
-                x.search(choose, pick, learn, what), due[what]);
-        }
-    }
-
     private static void searchByChoices() {
         ValuesGo x = new ValuesGo();
-        searches(x, 0, 0, 0, 0, 8, 0, 0);
-        searches(x, 0, 1, 1, 99999999, 8, 0, 0);
-        searches(x, 3, 2, 0, 55555555, 8, 0, 0);
+        check.searches(x, 0, 0, 0, 0, 8, 0, 0);
+        check.searches(x, 0, 1, 1, 99999999, 8, 0, 0);
+        check.searches(x, 3, 2, 0, 55555555, 8, 0, 0);
         x.tell(0, 0b1101);
         x.tell(1, 0b11);
         x.tell(2, 0b10110);
         for (int v = 3; v < 8; v++) {
             x.tell(v, 16);
         }
-        searches(x, 0, 0, 0, 1_44444, 3, 0, 0);
-        searches(x, 0, 1, 0, 314_44444, 3, 0, 0);
-        searches(x, 0, 2, 0, 212_44444, 3, 0, 0);
+        check.searches(x, 0, 0, 0, 1_44444, 3, 0, 0);
+        check.searches(x, 0, 1, 0, 314_44444, 3, 0, 0);
+        check.searches(x, 0, 2, 0, 212_44444, 3, 0, 0);
         check.due("rule()", Check.rule(x, "a=b+c"), 0);
         // a 0 2 3, b 0 1, c 1 2 4: first b is 0 or 1, a 2 or 3, c 1 or 2
         check.due("a first, least: 2 = 1 + 1 or 0 + 2, b least", x.search(0, 0, 0, 0), 202_44444);
@@ -72,11 +64,11 @@ public final class SolutionsTest {
     private static void searchTurnsBack() {
         ValuesGo x = check.with("a+b=9", "a-b=1");
         // a is tried with 1, 2, 3 and 4 and fails each time; then 5 is left; c to h are free.
-        searches(x, 0, 0, 0, 54000000, 10, 4, 0);
-        searches(x, 0, 0, 1, 54000000, 10, 4, 4);
+        check.searches(x, 0, 0, 0, 54000000, 10, 4, 0);
+        check.searches(x, 0, 0, 1, 54000000, 10, 4, 4);
         ValuesGo y = check.told(new int[] {3, 3, 3}, "a!b", "b!c", "a!c");
-        searches(y, 0, 0, 0, -1, 1, 2, 0);
-        searches(y, 0, 0, 1, -1, 1, 2, 1);
+        check.searches(y, 0, 0, 0, -1, 1, 2, 0);
+        check.searches(y, 0, 0, 1, -1, 1, 2, 1);
     }
 
     private static void searchInThought() {
@@ -104,9 +96,9 @@ public final class SolutionsTest {
     private static void searchFailed() {
         ValuesGo x = check.with("a<b");
         x.tell(0, 0);
-        searches(x, 0, 0, 1, -1, 0, 1, 0);
+        check.searches(x, 0, 0, 1, -1, 0, 1, 0);
         ValuesGo y = check.with("a<a");
-        searches(y, 0, 0, 1, -1, 0, 1, 0);
+        check.searches(y, 0, 0, 1, -1, 0, 1, 0);
         check.due("not failed in truth, as nothing ran", y.count(8), 0);
         ValuesGo z = check.with("1<0");
         check.due("a rule without variables rules out nothing", z.search(0, 0, 0, 0), 0);
@@ -124,9 +116,9 @@ public final class SolutionsTest {
 
     private static void searchDear() {
         // Four rows of 20 tries; a 4, b 0 to 8, e nine times, and e with b 9.
-        searches(check.hard(49), 0, 0, 0, 49000100, 100, 98, 0);
-        searches(check.hard(50), 0, 0, 0, -6, -6, -6, -6);
-        searches(check.hard(50), 0, 0, 1, -6, -6, -6, -6);
+        check.searches(check.hard(49), 0, 0, 0, 49000100, 100, 98, 0);
+        check.searches(check.hard(50), 0, 0, 0, -6, -6, -6, -6);
+        check.searches(check.hard(50), 0, 0, 1, -6, -6, -6, -6);
         check.due("by a's greatest it is at hand", check.hard(50).search(0, 1, 0, 0), 99001000);
     }
 
@@ -134,18 +126,18 @@ public final class SolutionsTest {
         // c, d and e are unlike, with two values for three: a try of c fails, whatever a and b are.
         ValuesGo x = check.told(new int[] {3, 3, 3, 3, 3}, "c!d", "d!e", "c!e");
         // Tries a, b, c, c, b, c, c; all is failed behind each of c's and behind each turn of it.
-        searches(x, 0, 0, 0, -1, 7, 8, 0);
+        check.searches(x, 0, 0, 0, -1, 7, 8, 0);
         // What is learned each time is c's 0 alone; it comes to the queue behind its turn, and when c changes.
-        searches(x, 0, 0, 1, -1, 7, 8, 4);
+        check.searches(x, 0, 0, 1, -1, 7, 8, 4);
 
         // b 0 and c 0 can't be, which only a try of c shows; while a is 0, e and f are to be like and unlike.
         int[] sets = {3, 3, 7, 7, 3, 3, 1, 3};
         ValuesGo y = check.told(sets, "b+c=d", "c+d!0", "h:a=0", "e!f", "(e-f)*(e-f)*h=0");
         // With a 0: b 0, c 0 fails; c 1, e 0 fails, e 1 too; c 2 by the turn, e fails twice; b 1 by the turn, c 0, e
         // fails twice; c 1 by the turn, e fails twice. With a 1 by the turn: b 0, c 0 fails; c 1, e 0.
-        searches(y, 0, 0, 0, 10110100, 13, 10, 0);
+        check.searches(y, 0, 0, 0, 10110100, 13, 10, 0);
         // The last c 0 is spared, as a try of b wakes what was learned of b and c; e's four are all of a and e.
-        searches(y, 0, 0, 1, 10110100, 12, 9, 5);
+        check.searches(y, 0, 0, 1, 10110100, 12, 9, 5);
     }
 
     private static void learningByNone() {
@@ -153,17 +145,17 @@ public final class SolutionsTest {
         ValuesGo x = check.told(new int[] {513, 7, 1, 3, 3}, "b+a!2", "2*b+a!2", "d!e", "b>(d-e)*(d-e)-1");
         // By most values: b 0, a 0, d 0 fails, d 1 too; a 9 by the turn, d 0 fails, d 1 too; b 1 or 2 by the turn,
         // a 0 fails; a 9, b 1, d 0.
-        searches(x, 2, 0, 0, 91001000, 7, 5, 0);
+        check.searches(x, 2, 0, 0, 91001000, 7, 5, 0);
         // Learned: a 0 with d 0; b 0 with d 0; of the last failure none, as a 0 alone leads to b 0, not to it.
-        searches(x, 2, 0, 1, 91001000, 7, 5, 2);
+        check.searches(x, 2, 0, 1, 91001000, 7, 5, 2);
     }
 
     private static void learningStops() {
         // Each of thirty tries of e fails; of the first ten each teaches a 0 and e 0.
-        searches(check.hard(30), 0, 0, 1, 30000100, 63, 60, 8);
-        searches(check.hard(30), 0, 0, 0, 30000100, 63, 60, 0);
+        check.searches(check.hard(30), 0, 0, 1, 30000100, 63, 60, 8);
+        check.searches(check.hard(30), 0, 0, 0, 30000100, 63, 60, 0);
         ValuesGo x = check.hard(30);
-        searches(x, 0, 0, 1, 30000100, 63, 60, 8);
+        check.searches(x, 0, 0, 1, 30000100, 63, 60, 8);
         check.due("learned ones are gone at the end", x.search(0, 0, 1, 3), 8);
     }
 
